@@ -1268,17 +1268,21 @@ public final class KeptPages {
                 return;
             }
             for (int i = 0; i < size; i++) {
-                int door = doors[i];
-                int free = freeFrom[door];
-                if ((gone >> i & 1) == 0 && free <= knock && !isBehindBetter(i, gone)) {
-                    freeFrom[door] = knock + lets[door];
-                    tried[knock] = numbers[i];
-                    search(knock + 1, gone | upToOfDoor(i), worth + worths[i]);
-                    freeFrom[door] = free;
+                if ((gone >> i & 1) == 0 && freeFrom[doors[i]] <= knock && !isBehindBetter(i, gone)) {
+                    searchWith(i, knock, gone, worth);
                 }
             }
             tried[knock] = NONE;
             search(knock + 1, gone, worth);
+        }
+
+        private void searchWith(int i, int knock, int gone, int worth) {
+            int door = doors[i];
+            int free = freeFrom[door];
+            freeFrom[door] = knock + lets[door];
+            tried[knock] = numbers[i];
+            search(knock + 1, gone | upToOfDoor(i), worth + worths[i]);
+            freeFrom[door] = free;
         }
 
         private void keepIfBetter(int worth) {
