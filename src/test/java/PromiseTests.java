@@ -340,10 +340,22 @@ public final class PromiseTests {
         due("11 empty", x.read(), 0);
         due("11 door 3 again", x.right(3), 1);
         due("11 blanks alone", Checks.rights(x, "   "), 0);
+        Checks.rights(x, "let 0 each 5;");
+        Checks.rights(x, "let 0 each 6;");
+        Checks.rights(x, "night 4;");
+        due("11 no let of earlier texts", x.right(0), 1);
+        Checks.rights(x, "never 0;");
+        Checks.rights(x, "never 1;");
+        Checks.rights(x, "never 1;");
+        due("11 no never of earlier texts", x.right(0), 1);
     }
 
     private static void readFaults() {
         faulty("x", 1, 0);
+        faulty(";", 1, 0);
+        faulty("xever 1;", 1, 0);
+        faulty("nevera 1;", 1, 0);
+        faulty("neverz 1;", 1, 0);
         faulty("never", 1, 5);
         faulty("never  ", 1, 7);
         faulty("never x;", 1, 6);
@@ -428,6 +440,8 @@ public final class PromiseTests {
 
     private static void programFaults() {
         faultyProgram("go 3;", 1, 0);
+        faultyProgram(";", 1, 0);
+        faultyProgram("link 1;;", 1, 7);
         faultyProgram("night 3;", 1, 0);
         faultyProgram("link;", 1, 4);
         faultyProgram("link 3", 1, 6);
@@ -653,6 +667,12 @@ public final class PromiseTests {
         x.take(3);
         due("18 a hole", x.hours(3, 0, 5, 0), UNKNOWN);
         due("18 behind the last view", x.hours(0, 31, 60, 1), 30);
+        KeptPages y = pages(0);
+        seen(y, 2999, 0, 1);
+        due("18 up to 2999", y.hours(0, 0, 2999, 1), 2999);
+        seen(y, 3000, 0, 2);
+        due("18 up to 3000", y.hours(0, 0, 3000, 1), 2999);
+        due("18 at 3000", y.hours(1, 2999, 3000, 2), 1);
     }
 
     private static void wholes() {
@@ -785,6 +805,19 @@ public final class PromiseTests {
         due("21 the fewest by the number of the set", x.whole(3), 1);
         x.take(6);
         due("21 the least hour of like ones", x.whole(4), 3);
+        KeptPages y = pages(0, 1, 2);
+        Checks.rights(y, "patience 0;");
+        seen(y, 0, 0, 1);
+        seen(y, 0, 1, 1);
+        seen(y, 0, 2, 2);
+        seen(y, 1, 2, 1);
+        goTo(y, 9);
+        y.part(0);
+        y.part(1);
+        y.part(3);
+        due("21 most are 2, though one is 0", y.whole(4), 0);
+        due("21 two are 2 there", y.whole(5), 2);
+        due("21 it could at 1", y.whole(2), 1);
     }
 
     // Promise 22
@@ -953,6 +986,9 @@ public final class PromiseTests {
         due("25 the first ever", x.links(0, 200, 150), 3);
         Checks.program(x, 0, "link 3;link 3;");
         due("25 two alike", x.links(0, 200, NONE), 2);
+        due("25 all may be 0", Checks.program(x, 0, "link 0;row 0 by 0 times 0;ever 0 by 0;"), 3);
+        due("25 a link of 0", x.links(0, 2, 0), 0);
+        due("25 ever 0", x.links(0, 2, 1), 0);
     }
 
     // Promise 26
@@ -1039,6 +1075,20 @@ public final class PromiseTests {
         seen(y, 1, 0, 0);
         gone(y, 2, 0);
         due("28 empty ones are alike", y.moved(0), 1);
+        KeptPages z = pages(0, 1, 2);
+        seen(z, 0, 0, (1L << 12) - 1);
+        seen(z, 0, 2, (1L << 22) - 1);
+        seen(z, 1, 2, (1L << 22) - 1);
+        seen(z, 1, 1, (1L << 22) - 1);
+        due("28 seen twice is not gone", z.moved(2), NONE);
+        gone(z, 2, 1);
+        due("28 its like", z.moved(1), 2);
+        gone(z, 3, 2);
+        due("28 12 of 22 are too few", z.moved(2), NONE);
+        seen(z, 4, 0, (1L << 13) - 1);
+        due("28 13 of 22 are 59", z.moved(2), NONE);
+        seen(z, 5, 0, (1L << 14) - 1);
+        due("28 14 of 22, page 0", z.moved(2), 0);
     }
 
     private static void houses() {
@@ -1073,6 +1123,8 @@ public final class PromiseTests {
         due("30 no house", x.words(0, 3), UNKNOWN);
         due("30 no house twice", x.words(3, 3), UNKNOWN);
         due("30 house -1", x.words(-1, 0), UNKNOWN);
+        due("30 no house first", x.words(3, 0), UNKNOWN);
+        due("30 house -1 behind", x.words(0, -1), UNKNOWN);
         seen(x, 0, 0, (1L << 60) - 1);
         due("30 the same", x.words(2, 0), 1);
         x.lose(0, 31);
@@ -1214,6 +1266,11 @@ public final class PromiseTests {
         x.take(7);
         due("34 by its first view left", x.first(0), 11);
         due("34 another piece", x.first(1), 4);
+        KeptPages y = pages(0, 1);
+        seen(y, 3, 0, 1);
+        seen(y, 3, 1, 0);
+        seen(y, 9, 1, 1);
+        due("34 page 0 alone", y.first(0), 1);
     }
 
     // Promise 35
@@ -1221,6 +1278,12 @@ public final class PromiseTests {
         KeptPages x = pages(0, 1);
         seen(x, 0, 0, 1L << 59 | 0b11);
         due("35 all are said", x.nowhere(), 0);
+        x.take(0);
+        seen(x, 1, 1, 1);
+        seen(x, 2, 1, 0);
+        due("35 a page without views says nothing", x.nowhere(), 1);
+        x = pages(0, 1);
+        seen(x, 0, 0, 1L << 59 | 0b11);
         seen(x, 1, 0, 0b01);
         due("35 two are not", x.nowhere(), 1L << 59 | 0b10);
         seen(x, 2, 1, 0b10);
