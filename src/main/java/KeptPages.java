@@ -1114,6 +1114,8 @@ public final class KeptPages {
     /** Views that may have stood together; weigh() goes through the hours once for all answers. */
     private static final class Whole {
         final List<Look> row = new ArrayList<>();
+        private final int[] states = new int[MOST_PARTS];
+        private final int[] statesUntil = new int[MOST_PARTS];
         private int firstStood, hoursStood, firstCould, fewest, nearest, mostSure, leastNot;
 
         boolean hasPage(Page page) {
@@ -1141,29 +1143,37 @@ public final class KeptPages {
             nearest = 0;
             mostSure = NONE;
             leastNot = 0;
+            for (int i = 0; i < MOST_PARTS; i++) {
+                statesUntil[i] = 0;
+            }
             for (int t = 0; t <= now; ) {
-                int next = Math.max(t + 1, Math.min(now + 1, nextChange(t)));
-                weighHours(t, next, rights);
+                int next = Math.max(t + 1, Math.min(now + 1, stepTo(t, rights)));
+                weighHours(t, next);
                 t = next;
             }
         }
 
-        private int nextChange(int t) {
+        /** Brings the states to the hour t, and answers the first hour after it at which one may be another. */
+        private int stepTo(int t, Rights rights) {
             int next = LAST_HOUR + 1;
-            for (int i = 0; i < row.size(); i++) {
-                next = Math.min(next, row.get(i).home.nextChange(t));
+            for (int i = 0; i < row.size() && i < MOST_PARTS; i++) {
+                if (statesUntil[i] <= t) {
+                    Look look = row.get(i);
+                    states[i] = look.home.stateAt(look, t, rights);
+                    statesUntil[i] = look.home.nextChange(t);
+                }
+                next = Math.min(next, statesUntil[i]);
             }
             return next;
         }
 
         /** The states are the same at all hours from t on until next. */
-        private void weighHours(int t, int next, Rights rights) {
+        private void weighHours(int t, int next) {
             int unsure = 0;
             int nots = 0;
-            for (int i = 0; i < row.size(); i++) {
-                int found = row.get(i).home.stateAt(row.get(i), t, rights);
-                unsure |= found == 2 ? 0 : 1 << i;
-                nots += found == 0 ? 1 : 0;
+            for (int i = 0; i < row.size() && i < MOST_PARTS; i++) {
+                unsure |= states[i] == 2 ? 0 : 1 << i;
+                nots += states[i] == 0 ? 1 : 0;
             }
             if (unsure == 0) {
                 firstStood = firstStood == NONE ? t : firstStood;

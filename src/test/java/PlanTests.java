@@ -5,7 +5,7 @@ public final class PlanTests {
     private static final Checks check = new Checks();
 
     public static void main(String[] args) {
-        int runs = args.length > 0 ? Integer.parseInt(args[0]) : 150;
+        int runs = args.length > 0 ? Integer.parseInt(args[0]) : 300;
         for (int seed = 0; seed < runs; seed++) {
             compare(new Random(seed), seed);
         }

@@ -927,6 +927,12 @@ public final class PromiseTests {
         for (int i = 0; i < 3; i++) {
             due("24 knock " + i + " in between", x.plan(15, i), other[i]);
         }
+        KeptPages y = pages(0, 0, 0);
+        Checks.rights(y, "night 2;");
+        seen(y, 0, 0, 1);
+        due("24 the worthier two, though later", y.plan(7, NONE), 2000);
+        due("24 page 1 first", y.plan(7, 0), 1);
+        due("24 page 2 then", y.plan(7, 1), 2);
     }
 
     private static void planWorth() {
