@@ -24,12 +24,17 @@ final class Checks {
     static void feed(KeptPages x, String text) {
         for (int i = 0; i < text.length(); i += 8) {
             int n = Math.min(8, text.length() - i);
-            long bytes = 0;
-            for (int k = 0; k < n; k++) {
-                bytes = bytes << 8 | text.charAt(i + k);
-            }
-            x.feed(n, bytes);
+            x.feed(n, bytes(text.substring(i, i + n)));
         }
+    }
+
+    /** As feed takes them: the first sign in the highest byte. */
+    static long bytes(String text) {
+        long all = 0;
+        for (int i = 0; i < text.length(); i++) {
+            all = all << 8 | text.charAt(i);
+        }
+        return all;
     }
 
     static int rights(KeptPages x, String text) {

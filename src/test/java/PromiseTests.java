@@ -1,42 +1,9 @@
 /** Each promise by itself: ordinary inputs, the edges that the document names, wrong inputs. */
-public final class PromiseTests {
-    private static final int NONE = KeptPages.NONE, UNKNOWN = KeptPages.UNKNOWN, OUTSIDE = KeptPages.OUTSIDE;
-    private static final int NOT = KeptPages.NOT, FULL = KeptPages.FULL;
-    private static final int LEAST = Integer.MIN_VALUE, MOST = Integer.MAX_VALUE;
+public final class PromiseTests extends Scene {
     private static final Checks check = new Checks();
 
     private static void due(String call, long got, long want) {
         check.due(call, got, want);
-    }
-
-    /** An object with a page behind each of the doors. */
-    private static KeptPages pages(int... doors) {
-        KeptPages x = new KeptPages();
-        for (int door : doors) {
-            x.page(door);
-        }
-        return x;
-    }
-
-    /** Goes on to the hour t and sees the page. */
-    private static int seen(KeptPages x, int t, int p, long set) {
-        return dated(x, t, p, set, NONE);
-    }
-
-    private static int dated(KeptPages x, int t, int p, long set, int date) {
-        goTo(x, t);
-        return x.look(p, 0, set, date);
-    }
-
-    private static int gone(KeptPages x, int t, int p) {
-        goTo(x, t);
-        return x.look(p, 1, 0, NONE);
-    }
-
-    private static void goTo(KeptPages x, int t) {
-        while (x.count(0) < t) {
-            x.go(Math.min(500, t - x.count(0)));
-        }
     }
 
     public static void main(String[] args) {
@@ -295,8 +262,8 @@ public final class PromiseTests {
         due("10 n 0", x.feed(0, 1), OUTSIDE);
         due("10 n 9", x.feed(9, 1), OUTSIDE);
         // The five lowest bytes, the highest of these first; what stands above them is left out.
-        due("10 five bytes", x.feed(5, 0x7f7f7f0000000000L | bytes("night")), 5);
-        due("10 three more", x.feed(3, bytes(" 3;")), 8);
+        due("10 five bytes", x.feed(5, 0x7f7f7f0000000000L | Checks.bytes("night")), 5);
+        due("10 three more", x.feed(3, Checks.bytes(" 3;")), 8);
         due("10 they are read", x.read(), 1);
         due("10 night", x.right(6), 3);
         due("10 empty then", x.count(6), 0);
@@ -309,14 +276,6 @@ public final class PromiseTests {
         due("10 refused changes nothing", x.count(6), 199);
         due("10 the 200th", x.feed(1, -1), 200);
         due("10 the 201st", x.feed(1, 0), FULL);
-    }
-
-    private static long bytes(String text) {
-        long all = 0;
-        for (int i = 0; i < text.length(); i++) {
-            all = all << 8 | text.charAt(i);
-        }
-        return all;
     }
 
     // Promise 11
