@@ -952,12 +952,12 @@ public final class KeptPages {
             return i < 0 || i >= length || i >= bytes.length ? NONE : bytes[i];
         }
 
-        private boolean isLetter(int i) {
-            return byteAt(i) >= 'a' && byteAt(i) <= 'z';
+        private static boolean isLetter(int sign) {
+            return sign >= 'a' && sign <= 'z';
         }
 
-        private boolean isFigure(int i) {
-            return byteAt(i) >= '0' && byteAt(i) <= '9';
+        private static boolean isFigure(int sign) {
+            return sign >= '0' && sign <= '9';
         }
 
         /** Where the next sign, word or number begins, or the end. */
@@ -980,7 +980,7 @@ public final class KeptPages {
                     return false;
                 }
             }
-            if (faultKind != 0 || isLetter(from + word.length())) {
+            if (faultKind != 0 || isLetter(byteAt(from + word.length()))) {
                 return false;
             }
             place = from + word.length();
@@ -1012,7 +1012,7 @@ public final class KeptPages {
             int from = nextPlace();
             int value = 0;
             int end = from;
-            while (end < length && isFigure(end)) {
+            while (end < length && isFigure(byteAt(end))) {
                 value = Math.min(MOST_NUMBER + 1, value * 10 + byteAt(end) - '0');
                 end++;
             }

@@ -21,6 +21,7 @@ public final class EdgesOfPromisesTests extends Scene {
         linksAndLikeness();
         houses();
         shown();
+        notPromised();
         doc.end("EdgesOfPromisesTests");
     }
 
@@ -975,5 +976,26 @@ public final class EdgesOfPromisesTests extends Scene {
         }
         gone(x, 10, 0);
         due("gone", x.since(0, 0, 0), NOT);
+    }
+
+    private static void notPromised() {
+        doc.section("## Not promised");
+        doc.names("How the state is held inside the object is free, as are the speed of each call, the text of toString and the "
+            + "behaviour of equals and hashCode.");
+        doc.names("Use of one object from several threads at once is not promised to be safe.");
+        doc.says("Nothing is promised beyond the answers and state changes described above, and nothing about an object after its "
+            + "512th call.");
+        // Rule 7 of LANGUAGE.md holds then, too: such calls answer something and end.
+        KeptPages x = Twins.full();
+        for (int call = 0; call < 5000; call++) {
+            x.go(1);
+            x.look(call % 13, call % 4, 1L << call % 61, call % 40 - 2);
+            x.take(call % 101);
+            x.part(call % 103);
+            x.feed(call % 10, call * 0x0101010101010101L);
+            x.lose(call % 4, call % 62);
+            x.mend();
+        }
+        doc.holds("an answer far behind the 512th call", x.count(1) == 12);
     }
 }

@@ -1,28 +1,21 @@
 import java.io.IOException;
 import java.lang.reflect.Field;
+import java.lang.reflect.Member;
 import java.lang.reflect.Method;
 import java.lang.reflect.Modifier;
 import java.nio.file.Files;
 import java.nio.file.Path;
 import java.util.ArrayList;
-import java.util.Arrays;
-import java.util.Collections;
-import java.util.HashSet;
 import java.util.List;
-import java.util.Set;
+import java.util.TreeSet;
 import java.util.regex.Matcher;
 import java.util.regex.Pattern;
 
-/** The face as the document has it, and the rules of LANGUAGE.md that can be seen from outside. */
+/** The public face: what the document writes of it stands in the source as it is written there, and nothing else is open. */
 public final class FaceTests {
-    private static final String[] FACE = {
-        "int go(int)", "int page(int)", "int look(int,int,long,int)", "int take(int)", "int told(int,int)",
-        "long pieces(int)", "int view(int,int)", "int count(int)", "int feed(int,long)", "int read()",
-        "int program(int)", "int fault()", "int right(int)", "int alike(int,int)", "int sure(int,int)",
-        "int state(int,int)", "int hours(int,int,int,int)", "int part(int)", "int wipe()", "int whole(int)",
-        "int bothWays(int,int,int)", "int rate(int)", "int plan(int,int)", "int links(int,int,int)", "int more(int,int)",
-        "int likeness(int,int)", "int moved(int)", "int lose(int,int)", "int words(int,int)", "int mend()",
-        "int shown(int,int,int)", "int since(int,int,int)", "int first(int)", "long nowhere()"};
+    private static final Path DOCUMENT = Path.of("../shared/DOC.md");
+    private static final Path SOURCE = Path.of("src/main/java/KeptPages.java");
+    private static final int METHODS = 34;
     private static final Checks check = new Checks();
 
     public static void main(String[] args) throws IOException {
@@ -30,117 +23,106 @@ public final class FaceTests {
         check.holds("the class is public and final", face.getModifiers() == (Modifier.PUBLIC | Modifier.FINAL));
         check.due("constructors", face.getDeclaredConstructors().length, 1);
         check.holds("the constructor is public", Modifier.isPublic(face.getDeclaredConstructors()[0].getModifiers()));
-        methods(face);
+        check.due("open methods", openMethods().size(), METHODS);
         constants(face);
-        for (Class<?> inside : face.getDeclaredClasses()) insideClass(inside);
-        check.holds("some twelve classes", face.getDeclaredClasses().length < 12);
-        source(Files.readString(Path.of("src/main/java/KeptPages.java")));
+        if (Files.isReadable(DOCUMENT)) {
+            compare(Files.readAllLines(DOCUMENT), Files.readAllLines(SOURCE));
+        }
         check.end("FaceTests");
     }
 
-    private static void methods(Class<?> face) {
-        List<String> open = new ArrayList<>();
-        for (Method method : face.getDeclaredMethods()) {
-            if (Modifier.isPublic(method.getModifiers())) {
-                open.add(told(method));
-            } else {
-                check.holds(method + " is private", Modifier.isPrivate(method.getModifiers()));
-                check.holds(method + " has no name of the face", !names().contains(method.getName()));
-            }
-        }
-        List<String> want = new ArrayList<>(Arrays.asList(FACE));
-        Collections.sort(want);
-        Collections.sort(open);
-        check.holds("the public methods are those of the document: " + open, open.equals(want));
+    private static void compare(List<String> document, List<String> source) {
+        List<String> written = faceOf(document);
+        stands(written, source);
+        onlyThese(written);
+        groups(document, source);
+        headings(document);
     }
 
-    private static String told(Method method) {
-        StringBuilder text = new StringBuilder(method.getReturnType() + " " + method.getName() + "(");
-        for (int i = 0; i < method.getParameterCount(); i++) {
-            text.append(i == 0 ? "" : ",").append(method.getParameterTypes()[i]);
-        }
-        return text.append(")").toString();
+    /** The lines of the document's face, from the class to its end. */
+    private static List<String> faceOf(List<String> document) {
+        int from = document.indexOf("public final class KeptPages {");
+        int to = document.indexOf("}");
+        check.holds("the document has a face", from >= 0 && to > from);
+        return from >= 0 && to > from ? document.subList(from, to) : new ArrayList<>();
     }
 
-    private static Set<String> names() {
-        Set<String> names = new HashSet<>();
-        for (String method : FACE) names.add(method.substring(method.indexOf(' ') + 1, method.indexOf('(')));
-        return names;
+    /** Where the document ends a call by a sign, the source opens its body. */
+    private static void stands(List<String> written, List<String> source) {
+        int last = -1;
+        for (String line : written) {
+            String due = line.endsWith(");") ? line.substring(0, line.length() - 1) + " {" : line;
+            check.holds("the source has \"" + due + "\", behind the one before", source.indexOf(due) > last);
+            last = source.indexOf(due);
+        }
+    }
+
+    private static void onlyThese(List<String> written) {
+        TreeSet<String> due = new TreeSet<>();
+        for (String line : written) {
+            Matcher call = Pattern.compile(" {4}public (?:int|long) (\\w+)\\(.*\\);").matcher(line);
+            if (call.matches()) due.add(call.group(1));
+        }
+        check.due("methods of the document", due.size(), METHODS);
+        check.holds("no other method is open: " + openMethods(), openMethods().equals(due));
+    }
+
+    private static TreeSet<String> openMethods() {
+        TreeSet<String> open = new TreeSet<>();
+        for (Method method : KeptPages.class.getDeclaredMethods()) {
+            if (isOpen(method)) check.holds(method + " is the only one of its name", open.add(method.getName()));
+        }
+        return open;
+    }
+
+    private static boolean isOpen(Member member) {
+        return !Modifier.isPrivate(member.getModifiers());
     }
 
     private static void constants(Class<?> face) {
-        Set<String> open = new HashSet<>();
+        TreeSet<String> open = new TreeSet<>();
         for (Field field : face.getDeclaredFields()) {
-            if (!Modifier.isPrivate(field.getModifiers())) {
+            if (isOpen(field)) {
                 open.add(field.getName());
                 check.due(field + "", field.getModifiers(), Modifier.PUBLIC | Modifier.STATIC | Modifier.FINAL);
                 check.holds(field + " is an int", field.getType() == int.class);
             }
         }
-        check.holds("the constants are those of the document",
-            open.equals(Set.of("NONE", "UNKNOWN", "OUTSIDE", "NOT", "FULL")));
-        fields(face);
+        check.holds("no other field is open: " + open, open.toString().equals("[FULL, NONE, NOT, OUTSIDE, UNKNOWN]"));
     }
 
-    private static void fields(Class<?> owner) {
-        int own = 0;
-        for (Field field : owner.getDeclaredFields()) {
-            if (Modifier.isStatic(field.getModifiers())) {
-                check.holds(field + " is final", Modifier.isFinal(field.getModifiers()));
-                check.holds(field + " is a plain constant",
-                    Set.of(int.class, long.class, boolean.class, char.class, String.class).contains(field.getType()));
-            } else {
-                own++;
-            }
+    /** The document tells of each group of calls what stands ahead of it; in the source it stands there, too. */
+    private static void groups(List<String> document, List<String> source) {
+        List<String> due = new ArrayList<>();
+        for (String line : document) {
+            Matcher group = Pattern.compile("Ahead of the calls (.*) the interface says: (---- .*)\\.").matcher(line);
+            if (group.matches()) due.add(group.group(2) + ": " + group.group(1).replaceAll("[`,]", ""));
         }
-        check.holds(owner + " has some twenty fields", own <= 20);
-    }
-
-    private static void insideClass(Class<?> inside) {
-        check.holds(inside + " is private and static", Modifier.isPrivate(inside.getModifiers())
-            && Modifier.isStatic(inside.getModifiers()));
-        fields(inside);
-        for (Method method : inside.getDeclaredMethods()) {
-            check.holds(method + " has no name of the face", !names().contains(method.getName()));
-            check.holds(method + " has seven parameters at most", method.getParameterCount() <= 7);
+        List<String> found = new ArrayList<>();
+        for (String line : source) {
+            Matcher call = Pattern.compile(" {4}public (?:int|long) (\\w+)\\(.*\\{").matcher(line);
+            int last = found.size() - 1;
+            if (line.startsWith("    // ----")) found.add(line.trim().substring(3) + ":");
+            else if (call.matches() && last >= 0) found.set(last, found.get(last) + " " + call.group(1));
+        }
+        check.due("groups of the document", due.size(), 8);
+        for (int i = 0; i < due.size(); i++) {
+            String there = i < found.size() ? found.get(i) : "";
+            check.holds("\"" + due.get(i) + "\" is \"" + there + "\"", there.equals(due.get(i)));
         }
     }
 
-    private static void source(String text) {
-        String code = text.replaceAll("(?s)/\\*.*?\\*/", "").replaceAll("//[^\n]*", "").replaceAll("\"[^\"]*\"", "\"\"");
-        for (String word : new String[] {"throw", "throws", "try", "catch", "synchronized", "assert", "package", "volatile",
-            "native", "var", "record", "equals", "hashCode", "toString", "Object", "Random", "Thread", "Exception"}) {
-            check.holds("no " + word, !Pattern.compile("\\b" + word + "\\b").matcher(code).find());
+    /** Every part of the document has its tests: this one, EdgesOfTermsTests, or EdgesOfPromisesTests. */
+    private static void headings(List<String> document) {
+        List<String> known = new ArrayList<>(List.of("## What it is", "## The public face", "## Terms"));
+        for (int term = 1; term <= 7; term++) known.add("======== " + term);
+        for (int promise = 1; promise <= 35; promise++) known.add("## Promise " + promise);
+        known.add("## Not promised");
+        List<String> found = new ArrayList<>();
+        for (String line : document) {
+            Matcher heading = Pattern.compile("(======== \\d+|## Promise \\d+|## [^:]*).*").matcher(line);
+            if (heading.matches()) found.add(heading.group(1));
         }
-        check.holds("no lambda", !code.contains("->"));
-        check.holds("no method reference", !code.contains("::"));
-        check.holds("no static block", !Pattern.compile("static\\s*\\{").matcher(code).find());
-        check.holds("characters 1 to 127 alone", text.chars().allMatch(c -> c > 0 && c < 128));
-        Set<String> known = Set.of("import java.util.ArrayList;", "import java.util.List;");
-        text.lines().filter(l -> l.startsWith("import")).forEach(l -> check.holds(l, known.contains(l)));
-        library(code);
-        lengths(text);
-    }
-
-    private static void library(String code) {
-        Set<String> known = Set.of("Math.max", "Math.min", "Long.bitCount", "Integer.bitCount", "System.arraycopy");
-        Matcher call = Pattern.compile("\\b([A-Z][a-z]+\\.[a-z]\\w*)\\(").matcher(code);
-        while (call.find()) check.holds(call.group(1) + " is of the library listed", known.contains(call.group(1)));
-    }
-
-    /** A method opens with a line that ends in ") {" and closes with a brace as far in. */
-    private static void lengths(String text) {
-        String[] lines = text.split("\n");
-        int methods = 0;
-        for (int i = 0; i < lines.length; i++) {
-            Matcher opens = Pattern.compile("^( {4}| {8})(public|private|static|[A-Za-z]).*\\) \\{$").matcher(lines[i]);
-            if (opens.matches()) {
-                int end = i;
-                while (end < lines.length && !lines[end].equals(opens.group(1) + "}")) end++;
-                check.holds("line " + (i + 1) + " opens a method of sixty lines at most", end - i < 60);
-                methods++;
-            }
-        }
-        check.holds("methods were found", methods > 60);
+        check.holds("the parts of the document: " + found, found.equals(known));
     }
 }
