@@ -962,7 +962,7 @@ public final class KeptPages {
 
         /** Where the next sign, word or number begins, or the end. */
         int nextPlace() {
-            while (place < length && byteAt(place) == ' ') {
+            while (place < length && place < bytes.length && bytes[place] == ' ') {
                 place++;
             }
             return place;
